@@ -18,7 +18,7 @@ public final class DeputyQuarrels {
 
     private static final int WORD_PERSON = 0, WORD_OWES = 1, WORD_GRUDGE = 2, WORD_QUARREL = 3, WORDS = 4;
     private static final int GOES_ON = 0, ENDED = 1, STANDS = 2;
-    private static final int NOBODY_FOR_PEACE = -1;
+    private static final int NEITHER = -1;
 
     private final Reader reader;
     private final Game game;
@@ -194,7 +194,7 @@ public final class DeputyQuarrels {
     public int comes(int q, int what) {
         if (!isQuarrel(q)) return UNKNOWN;
         if (what < 0 || what > 4) return OUTSIDE;
-        game.solve(Rows.at(now.how, q), NOBODY_FOR_PEACE, true);
+        game.solve(Rows.at(now.how, q), NEITHER, true);
         switch (what) {
             case 0: return game.found;
             case 1: return game.endsFound();
@@ -206,14 +206,14 @@ public final class DeputyQuarrels {
 
     public int end(int q, int i) {
         if (!isQuarrel(q)) return UNKNOWN;
-        game.solve(Rows.at(now.how, q), NOBODY_FOR_PEACE, false);
+        game.solve(Rows.at(now.how, q), NEITHER, false);
         return game.endAt(i);
     }
 
     public int forces(int q, int side) {
         if (!isQuarrel(q)) return UNKNOWN;
         if (!isSide(side)) return OUTSIDE;
-        return game.neededBy(Rows.at(now.how, q), side);
+        return game.solve(Rows.at(now.how, q), side, false);
     }
 
     public int best(int q, int side) {
@@ -224,7 +224,7 @@ public final class DeputyQuarrels {
 
     public int sure(int q) {
         if (!isQuarrel(q)) return UNKNOWN;
-        return game.neededBy(Rows.at(now.how, q), NOBODY_FOR_PEACE);
+        return game.solve(Rows.at(now.how, q), NEITHER, false);
     }
 
     public int aside(int q, int side) {
@@ -398,12 +398,12 @@ public final class DeputyQuarrels {
      * and no larger SET is tried.
      */
     private int fewestLaidAside(int s, int side) {
-        if (game.neededBy(s, side) != NONE) return 0;
+        if (game.solve(s, side, false) != NONE) return 0;
         for (int g = 0; g < now.grudges.size && g < LAID_ASIDE; g++) {
             int a = Rows.at(now.grudges.first, g);
             int b = Rows.at(now.grudges.second, g);
             game.toggleFoes(a, b);
-            int needed = game.neededBy(s, side);
+            int needed = game.solve(s, side, false);
             game.toggleFoes(a, b);
             if (needed != NONE) return 1 << g;
         }
@@ -843,6 +843,9 @@ public final class DeputyQuarrels {
         /** How many ways on from a state are not solved yet. */
         private final int[] left = new int[STATES];
         private final int[] ends = new int[PERSONS];
+        /** The marks of the steps that a state was put in last; solve never leaves as many, so none is cleared. */
+        private int firstMark;
+        private int lastMark = PERSONS;
 
         Game() {
             for (int s = 0; s < STATES; s++) needed[s] = NEW;
@@ -879,7 +882,9 @@ public final class DeputyQuarrels {
         }
 
         boolean isEnded(int s) {
-            return !areFoes(holder(s, 0), holder(s, 1));
+            int a = Rows.at(ways.who, spot(s, 0));
+            int b = Rows.at(ways.who, spot(s, 1));
+            return (Rows.at(foes, a) >> b & 1) == 0;
         }
 
         int howIs(int s) {
@@ -890,7 +895,8 @@ public final class DeputyQuarrels {
         /** The spots to which the side whose turn it is may hand it on, if it is not ENDED. */
         long onwardOf(int s) {
             int side = s & 1;
-            return Rows.at(ways.onward, spot(s, side)) & ~Rows.at(ways.held, holder(s, 1 - side));
+            int other = Rows.at(ways.who, spot(s, 1 - side));
+            return Rows.at(ways.onward, spot(s, side)) & ~Rows.at(ways.held, other);
         }
 
         int after(int s, int spot) {
@@ -922,24 +928,21 @@ public final class DeputyQuarrels {
             return after(at, spotFor(at, to));
         }
 
-        int neededBy(int s, int peace) {
-            solve(s, peace, false);
-            return neededAt(s);
-        }
-
         private int neededAt(int s) {
             return Math.max(Rows.at(needed, s), NONE);
         }
 
         /**
-         * Backwards from the ENDED ones (and those that STAND, if they are to count), in the order of what they
-         * need: PEACE's state is solved with the first way on that is, any other with the last.
+         * In how many HANDINGS and passes it is ENDED, or NONE. Backwards from the ENDED ones (and those that
+         * STAND, if they are to count), in the order of what they need: a state in which PEACE is to choose is
+         * solved with the first way on that is, any other with the last.
          */
-        void solve(int start, int peace, boolean standingCounts) {
+        int solve(int start, int peace, boolean standingCounts) {
             forget();
             comeTo(start);
             for (int i = 0; i < found && i < STATES; i++) spread(Rows.at(states, i), standingCounts);
             for (int i = 0; i < solvedCount && i < STATES; i++) lookBack(Rows.at(solved, i), peace);
+            return neededAt(start);
         }
 
         private void forget() {
@@ -1093,10 +1096,11 @@ public final class DeputyQuarrels {
             solvedCount++;
         }
 
-        /** Whole rows of states, one step after the other; the mark of a state is the step it was put in last. */
+        /** Whole rows of states, one step after the other. */
         int holdersBehind(int start, int n, Notes notes) {
             forget();
-            Rows.fill(left, NONE);
+            firstMark = lastMark + 1;
+            lastMark = firstMark + n;
             int[] row = states;
             int[] next = solved;
             int size = putIfFits(row, 0, start, 0, notes);
@@ -1128,8 +1132,8 @@ public final class DeputyQuarrels {
         }
 
         private int putIfFits(int[] row, int size, int s, int k, Notes notes) {
-            if (Rows.at(left, s) == k || !notes.fits(k, holder(s, 0), holder(s, 1))) return size;
-            Rows.put(left, s, k);
+            if (Rows.at(left, s) == firstMark + k || !notes.fits(k, holder(s, 0), holder(s, 1))) return size;
+            Rows.put(left, s, firstMark + k);
             Rows.put(row, size, s);
             return size + 1;
         }
@@ -1151,13 +1155,10 @@ public final class DeputyQuarrels {
             many = 0;
             first = NONE;
             second = NONE;
-            if (game.neededBy(s, side) == NONE) return;
+            if (game.solve(s, side, false) == NONE) return;
             many = 1;
             first = seekBehind(game, s, side, NONE);
-            if (first == NONE) seekTwo(game, s, side, persons);
-        }
-
-        private void seekTwo(Game game, int s, int side, int persons) {
+            if (first != NONE) return;
             many = NONE;
             for (int pair = 0; pair < PERSONS * PERSONS && many == NONE; pair++) {
                 int a = pair / PERSONS;
@@ -1178,14 +1179,14 @@ public final class DeputyQuarrels {
          * PEACE's way never ends at cannot hinder that way, so no other pair is tried.
          */
         private int seekBehind(Game game, int s, int side, int behind) {
-            if (game.neededBy(s, side) == NONE) return NONE;
+            if (game.solve(s, side, false) == NONE) return NONE;
             game.followPeace(s, side, met);
             for (int pair = behind + 1; pair < PERSONS * PERSONS; pair++) {
                 int a = pair / PERSONS;
                 int b = pair % PERSONS;
                 if ((Rows.at(met, a) >> b & 1) == 0) continue;
                 game.toggleFoes(a, b);
-                int needs = game.neededBy(s, side);
+                int needs = game.solve(s, side, false);
                 game.toggleFoes(a, b);
                 if (needs == NONE) return pair;
             }
@@ -1225,8 +1226,8 @@ public final class DeputyQuarrels {
         }
 
         private boolean isReached(int set) {
-            for (int used = 0; used < USES; used++) {
-                if (hasBit(reached, set * USES + used)) return true;
+            for (int i = 0; i < USES / 64; i++) {
+                if (Rows.at(reached, set * (USES / 64) + i) != 0L) return true;
             }
             return false;
         }
