@@ -237,7 +237,7 @@ public final class DeputyQuarrels {
     public int fresh(int q, int side, int what) {
         if (!isQuarrel(q)) return UNKNOWN;
         if (!isSide(side) || what < 0 || what > 2) return OUTSIDE;
-        newGrudges.seek(game, Rows.at(now.how, q), side, told.persons);
+        newGrudges.seek(game, Rows.at(now.how, q), side);
         if (what == 0) return newGrudges.many;
         return newGrudges.pairTold(what);
     }
@@ -816,7 +816,8 @@ public final class DeputyQuarrels {
             int debtor = Rows.at(who, PERSONS + t);
             int creditor = Rows.at(from, PERSONS + t);
             int to = byTurn(t);
-            for (int h = 0; h < SPOTS; h++) {
+            int spots = noBack ? SPOTS : PERSONS;
+            for (int h = 0; h < spots; h++) {
                 if (Rows.at(who, h) != creditor || (noBack && Rows.at(from, h) == debtor)) continue;
                 Rows.put(onward, h, Rows.at(onward, h) | 1L << to);
                 Rows.put(back, to, Rows.at(back, to) | 1L << h);
@@ -829,7 +830,8 @@ public final class DeputyQuarrels {
      * whose turn it is; so a pass makes state s ^ 1 of s.
      */
     private static final class Game {
-        private static final int NEW = -2, OPEN = -1;
+        /** What a state that was come to needs is kept as 1 more than it is, so that 0 is one not come to yet. */
+        private static final int NEW = 0, OPEN = -1, NOTHING = 1;
 
         final Ways ways = new Ways();
         int found;
@@ -843,14 +845,9 @@ public final class DeputyQuarrels {
         /** How many ways on from a state are not solved yet. */
         private final int[] left = new int[STATES];
         private final int[] ends = new int[PERSONS];
-        /** The marks of the steps that a state was put in last; solve never leaves as many, so none is cleared. */
+        /** Steps are marked by ever greater numbers, beyond all that solve leaves in the row: so none is cleared. */
         private int firstMark;
         private int lastMark = PERSONS;
-
-        Game() {
-            for (int s = 0; s < STATES; s++) needed[s] = NEW;
-            for (int h = 0; h < SPOTS; h++) ways.who[h] = h < PERSONS ? h : NONE;
-        }
 
         static int state(int spot0, int spot1, int turn) {
             return (spot0 * SPOTS + spot1) * 2 + turn;
@@ -862,10 +859,6 @@ public final class DeputyQuarrels {
 
         void toggleFoes(int a, int b) {
             Grudges.toggle(foes, a, b);
-        }
-
-        boolean areFoes(int a, int b) {
-            return (Rows.at(foes, a) >> b & 1) != 0;
         }
 
         static int spot(int s, int side) {
@@ -929,7 +922,7 @@ public final class DeputyQuarrels {
         }
 
         private int neededAt(int s) {
-            return Math.max(Rows.at(needed, s), NONE);
+            return Math.max(Rows.at(needed, s) - NOTHING, NONE);
         }
 
         /**
@@ -973,10 +966,10 @@ public final class DeputyQuarrels {
             if (how == ENDED) {
                 int a = holder(s, 0);
                 Rows.put(ends, a, Rows.at(ends, a) | 1 << holder(s, 1));
-                settle(s, 0);
+                settle(s, NOTHING);
             } else if (how == STANDS) {
                 canStand = true;
-                if (standingCounts) settle(s, 0);
+                if (standingCounts) settle(s, NOTHING);
             } else if (rest == 0L) {
                 comeTo(s ^ 1);
             }
@@ -1141,56 +1134,71 @@ public final class DeputyQuarrels {
 
     /** The fewest grudges more, with which PEACE does not FORCE. A pair is 16 times the lesser and the greater. */
     private static final class NewGrudges {
+        private static final int ALL_PAIRS = PERSONS * PERSONS;
+
         int many;
         private int first;
         private int second;
         private final int[] met = new int[PERSONS];
+        private final int[] metBesides = new int[PERSONS];
 
         int pairTold(int what) {
             int pair = what == 1 ? first : second;
             return pair == NONE ? NONE : 100 * (pair / PERSONS) + pair % PERSONS;
         }
 
-        void seek(Game game, int s, int side, int persons) {
-            many = 0;
+        /**
+         * Grudges of pairs that PEACE's way never ends at don't hinder that way. So one of the new ones must be of
+         * a pair that it ends at, and another of a pair that PEACE's way with the one ends at. Two that the first
+         * way ends at are looked at once, from the lesser.
+         */
+        void seek(Game game, int s, int side) {
             first = NONE;
             second = NONE;
+            many = 0;
             if (game.solve(s, side, false) == NONE) return;
-            many = 1;
-            first = seekBehind(game, s, side, NONE);
-            if (first != NONE) return;
             many = NONE;
-            for (int pair = 0; pair < PERSONS * PERSONS && many == NONE; pair++) {
-                int a = pair / PERSONS;
-                int b = pair % PERSONS;
-                if (a >= b || b >= persons || game.areFoes(a, b)) continue;
-                game.toggleFoes(a, b);
-                second = seekBehind(game, s, side, pair);
-                game.toggleFoes(a, b);
-                if (second != NONE) {
-                    many = 2;
-                    first = pair;
-                }
+            seekBesides(game, s, side, NONE);
+            if (many != NONE) return;
+            for (int pair = 0; pair < ALL_PAIRS; pair++) {
+                if (isIn(met, pair)) seekBesides(game, s, side, pair);
             }
         }
 
-        /**
-         * The first pair behind one by whose grudge PEACE, which FORCES without it, does no more. A pair that
-         * PEACE's way never ends at cannot hinder that way, so no other pair is tried.
-         */
-        private int seekBehind(Game game, int s, int side, int behind) {
-            if (game.solve(s, side, false) == NONE) return NONE;
-            game.followPeace(s, side, met);
-            for (int pair = behind + 1; pair < PERSONS * PERSONS; pair++) {
-                int a = pair / PERSONS;
-                int b = pair % PERSONS;
-                if ((Rows.at(met, a) >> b & 1) == 0) continue;
-                game.toggleFoes(a, b);
-                int needs = game.solve(s, side, false);
-                game.toggleFoes(a, b);
-                if (needs == NONE) return pair;
+        private static boolean isIn(int[] pairs, int pair) {
+            return (Rows.at(pairs, pair / PERSONS) >> pair % PERSONS & 1) != 0;
+        }
+
+        private static void toggle(Game game, int pair) {
+            if (pair != NONE) game.toggleFoes(pair / PERSONS, pair % PERSONS);
+        }
+
+        /** Looks for a pair besides one (or NONE), with whose grudge PEACE still FORCES. */
+        private void seekBesides(Game game, int s, int side, int one) {
+            int[] row = one == NONE ? met : metBesides;
+            toggle(game, one);
+            game.solve(s, side, false);
+            game.followPeace(s, side, row);
+            for (int pair = 0; pair < ALL_PAIRS; pair++) {
+                if (!isIn(row, pair) || (pair < one && isIn(met, pair)) || !isAhead(one, pair)) continue;
+                toggle(game, pair);
+                if (game.solve(s, side, false) == NONE) take(one, pair);
+                toggle(game, pair);
             }
-            return NONE;
+            toggle(game, one);
+        }
+
+        /** Whether the two, if they are enough, are ahead of those that were found. */
+        private boolean isAhead(int one, int pair) {
+            if (many == NONE) return true;
+            int lesser = Math.min(one, pair);
+            return one != NONE && (lesser < first || (lesser == first && Math.max(one, pair) < second));
+        }
+
+        private void take(int one, int pair) {
+            many = one == NONE ? 1 : 2;
+            first = one == NONE ? pair : Math.min(one, pair);
+            second = one == NONE ? NONE : Math.max(one, pair);
         }
     }
 

@@ -113,7 +113,7 @@ public final class AgainstPlainTest {
 
     private void brokenTown() {
         StringBuilder s = new StringBuilder(townText());
-        for (int i = below(3); i >= 0; i--) {
+        for (int i = below(3); i >= 0 && s.length() > 0; i--) {
             int at = below(s.length());
             switch (below(6)) {
                 case 0: s.setLength(at + 1); break;
@@ -160,7 +160,7 @@ public final class AgainstPlainTest {
             case 18: due("best", 18, x.best(q, side), y.best(q, side), q, side); break;
             case 19: due("sure", 19, x.sure(q), y.sure(q), q); break;
             case 20: due("aside", 20, x.aside(q, side), y.aside(q, side), q, side); break;
-            case 21: v = any(3); if (persons < 8) due("fresh", 21, x.fresh(q, side, v), y.fresh(q, side, v), q, side, v); break;
+            case 21: v = any(3); due("fresh", 21, x.fresh(q, side, v), y.fresh(q, side, v), q, side, v); break;
             case 22: due("most", 22, x.most(side), y.most(side), side); break;
             case 23: v = any(Math.min(turns, 9)); due("worth", 23, x.worth(v), y.worth(v), v); break;
             case 24: logSome(a, b); break;

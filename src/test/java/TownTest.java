@@ -124,6 +124,7 @@ public final class TownTest {
         fault(" perso 1;", 1, 1);
         fault("personx 1;", 1, 0);
         fault("persons 1;", 1, 0);
+        fault("personz 1;", 1, 0);
         fault("per son 1;", 1, 0);
         fault("person x;", 1, 7);
         fault("person person 1;", 1, 7);
