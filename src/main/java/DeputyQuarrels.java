@@ -11,13 +11,14 @@ public final class DeputyQuarrels {
 
     /**
      * A spot is how one side has a QUARREL: spot p is PERSON p who has it from nobody, spot PERSONS + t the
-     * debtor of TURN t who has it from that TURN's creditor. As whom one has it from always owes a TURN, these
-     * few spots are all there can be.
+     * debtor of TURN t who has it from that TURN's creditor. As one who has it from another owes that one a
+     * TURN, these few spots are all there can be.
      */
     private static final int SPOTS = PERSONS + TURNS, STATES = SPOTS * SPOTS * 2;
 
     private static final int WORD_PERSON = 0, WORD_OWES = 1, WORD_GRUDGE = 2, WORD_QUARREL = 3, WORDS = 4;
     private static final int GOES_ON = 0, ENDED = 1, STANDS = 2;
+    /** As PEACE's side: neither is for peace. */
     private static final int NEITHER = -1;
 
     private final Reader reader;
@@ -939,7 +940,7 @@ public final class DeputyQuarrels {
         }
 
         private void forget() {
-            for (int i = 0; i < found; i++) Rows.put(needed, Rows.at(states, i), NEW);
+            for (int i = 0; i < found && i < STATES; i++) Rows.put(needed, Rows.at(states, i), NEW);
             found = 0;
             solvedCount = 0;
             canStand = false;
