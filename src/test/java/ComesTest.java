@@ -11,8 +11,18 @@ public final class ComesTest {
         sidesOfEnds();
         twoNewOnes();
         newOnesInOrder();
+        oneIsFewerThanTwo();
+        theFirstOfTwoPairs();
         laidAside();
         grudgesOfOthersStay();
+        personZero();
+        choicesOfSideOne();
+        likeOnesTheLeast();
+        twelveGrudges();
+        endAskedFirst();
+        roundsAreNotSure();
+        lawsAndTownsChange();
+        fortyTurns();
         Check.close();
     }
 
@@ -217,5 +227,207 @@ public final class ComesTest {
         fresh(x, 0, 1, 102, NONE);
         due("still so", x.forces(0, 0), 1);
         due("grudges", x.person(1, 3), 1);
+    }
+
+    private static void personZero() {
+        DeputyQuarrels x = Check.town("person1;person1;quarrel0 1;");
+        comes(x, 1, 1, 0, 0, 3);
+        ends(x, 1);
+        Check.tell(x, "person1;person1;person0;person0;owes2 1;owes3 1;grudge0 1;quarrel0 1;");
+        due("town", x.town(), 4);
+        comes(x, 4, 2, 0, 0, 15);
+        ends(x, 2, 3);
+        sides(x, 2, 2, NONE, NONE, 2);
+        fresh(x, 0, 1, 2, NONE);
+        fresh(x, 1, 2, 2, 3);
+        Check.tell(x, "person1;person1;person2;person2;owes0 2;owes1 2;grudge2 3;grudge0 3;grudge1 3;quarrel2 3;");
+        due("town", x.town(), 4);
+        due("best is 0", x.best(0, 0), 0);
+        due("best is 0", x.best(0, 1), 0);
+        x.bear(0, 3, false);
+        sides(x, 1, NONE, 0, 1, NONE);
+    }
+
+    /** Side 0 has nobody; 1 may go wrong by 2, and comes by 3 and 4 to an end. */
+    private static void choicesOfSideOne() {
+        DeputyQuarrels x = Check.town("person2;person2;person1;person1;person0;"
+            + "owes2 1;owes3 1;owes4 3;grudge0 1;grudge2 0;grudge3 0;quarrel0 1;");
+        comes(x, 6, 1, 1, 0, 31);
+        ends(x, 4);
+        sides(x, NONE, 4, NONE, NONE, NONE);
+        due("aside", x.aside(0, 0), 1);
+        due("aside", x.aside(0, 1), 0);
+        fresh(x, 0, 0, NONE, NONE);
+        fresh(x, 1, 1, 4, NONE);
+        x.hand(0, NONE);
+        sides(x, NONE, 3, 2, 3, NONE);
+        x.hand(0, 3);
+        sides(x, 2, 2, NONE, NONE, 2);
+        x.hand(0, NONE);
+        sides(x, 1, 1, 4, 4, 1);
+        x.hand(0, NONE);
+        sides(x, 0, 0, NONE, NONE, 0);
+    }
+
+    /** By 2 it cannot be ENDED, 3 and 4 need two more, 5 and 6 end it. */
+    private static void likeOnesTheLeast() {
+        String two = "person2;person2;person1;person1;person1;person1;person1;person0;person0;"
+            + "owes6 0;owes5 0;owes4 0;owes3 0;owes8 4;owes7 3;";
+        String grudges = "grudge0 1;grudge1 2;grudge1 3;grudge1 4;";
+        DeputyQuarrels x = Check.town(two + "owes2 0;" + grudges + "quarrel0 1;");
+        sides(x, 1, NONE, 5, 2, NONE);
+        comes(x, 10, 4, 1, 0, 511);
+        ends(x, 501, 601, 701, 801);
+        x = Check.town(two + grudges + "quarrel0 1;");
+        sides(x, 1, 3, 5, 3, 3);
+        x.bear(5, 1, true);
+        sides(x, 1, NONE, 6, 5, NONE);
+        x.bear(6, 1, true);
+        sides(x, 3, NONE, 3, 5, NONE);
+        x.bear(7, 1, true);
+        sides(x, 3, NONE, 4, 3, NONE);
+        x.bear(8, 1, true);
+        sides(x, NONE, NONE, 3, 3, NONE);
+    }
+
+    /** The twelfth grudge alone is laid aside; with a thirteenth, none may be. */
+    private static void twelveGrudges() {
+        DeputyQuarrels x = Check.town("person1;person1;person1;person1;person1;person1;"
+            + "grudge2 3;grudge2 4;grudge2 5;grudge3 4;grudge3 5;grudge4 5;grudge0 2;grudge0 3;grudge0 4;grudge1 2;"
+            + "grudge1 3;grudge1 0;quarrel0 1;quarrel0 5;quarrel1 5;quarrel2 5;");
+        due("grudges", x.count(2), 12);
+        for (int side = 0; side < 2; side++) {
+            due("aside, the twelfth", x.aside(0, side), 2048);
+            due("aside, ENDED", x.aside(1, side), 0);
+            due("aside, the third", x.aside(3, side), 4);
+        }
+        due("bear", x.bear(5, 1, true), 13);
+        for (int q = 0; q < 4; q++) due("aside of 13", x.aside(q, q & 1), NOT);
+        due("aside of 13, OUTSIDE", x.aside(0, 2), OUTSIDE);
+        due("aside of 13, UNKNOWN", x.aside(4, 2), UNKNOWN);
+        due("bear", x.bear(2, 3, false), 12);
+        due("aside, the twelfth", x.aside(0, 0), 2048);
+        due("aside, the first", x.aside(2, 1), 1);
+        due("bear", x.bear(0, 1, false), 11);
+        due("aside, ENDED", x.aside(0, 0), 0);
+        DeputyQuarrels y = Check.town("person1;person1;quarrel0 1;");
+        due("aside of no grudge", y.aside(0, 0), 0);
+        due("aside of no grudge", y.aside(0, 1), 0);
+    }
+
+    private static void endAskedFirst() {
+        String town = "person1;person1;person0;person0;owes2 0;owes3 0;grudge0 1;quarrel0 1;quarrel2 3;";
+        DeputyQuarrels x = Check.town(town);
+        due("end(0, 1)", x.end(0, 1), 301);
+        due("end(1, 0)", x.end(1, 0), 203);
+        due("end(1, 1)", x.end(1, 1), NONE);
+        due("end(0, 0)", x.end(0, 0), 201);
+        due("end(0, 2)", x.end(0, 2), NONE);
+        x.bear(2, 1, true);
+        due("end(0, 0)", x.end(0, 0), 301);
+        due("end(0, 1)", x.end(0, 1), NONE);
+        due("end(2, 0)", x.end(2, 0), UNKNOWN);
+        due("have", x.have(3), 14);
+        due("end(0, 0)", x.end(0, 0), 301);
+        x.hand(0, 2);
+        due("end(0, 0)", x.end(0, 0), NONE);
+    }
+
+    /** It may be ENDED, but may go round as well. */
+    private static void roundsAreNotSure() {
+        DeputyQuarrels x = Check.town("person1;person1;person1;person1;owes0 2;owes2 0;owes3 2;"
+            + "grudge0 1;grudge1 2;quarrel0 1;");
+        x.law(0, 2);
+        comes(x, 5, 1, 0, 1, 15);
+        ends(x, 301);
+        sides(x, 3, NONE, 2, 2, NONE);
+        x.hand(0, 2);
+        x.hand(0, NONE);
+        sides(x, 1, NONE, 3, 0, NONE);
+        x.law(1, 1);
+        sides(x, 1, NONE, 3, 0, NONE);
+        x.begin(0);
+        comes(x, 4, 1, 0, 0, 15);
+        sides(x, 3, 3, 2, 2, 3);
+    }
+
+    /**
+     * Five of each side who all owe one another, 40 TURNS, and all grudges: with NO BACK a side has it in one of 20
+     * ways from a giver, behind one HANDING in 4, as told in one; so it is in one way and 4 and 400 and 400.
+     */
+    private static void fortyTurns() {
+        StringBuilder s = new StringBuilder("person1;".repeat(16));
+        for (int five = 0; five < 10; five += 5) {
+            for (int a = five; a < five + 5; a++) {
+                for (int b = five; b < five + 5; b++) if (a != b) s.append("owes").append(a).append(' ').append(b).append(';');
+            }
+        }
+        DeputyQuarrels x = Check.town(s + "quarrel0 5;quarrel5 0;");
+        due("TURNS", x.count(1), 40);
+        for (int a = 0; a < 5; a++) for (int b = 5; b < 10; b++) x.bear(a, b, true);
+        x.law(0, 2);
+        comes(x, 50, 0, 0, 1, 1023);
+        x.law(1, 1);
+        comes(x, 805, 0, 0, 1, 1023);
+        due("comes, sides the other way", x.comes(1, 0), 805);
+        sides(x, NONE, NONE, 1, 1, NONE);
+        due("have", x.have(40), 1023);
+        due("have", x.have(1), 0x3e);
+        x.bear(4, 9, false);
+        due("comes", x.comes(0, 1), 1);
+        ends(x, 409);
+        due("end, sides the other way", x.end(1, 0), 904);
+        due("forces", x.forces(0, 0), NONE);
+        due("sure", x.sure(0), NONE);
+    }
+
+    /** What could be by former LAWS, or in a former town, counts no more. */
+    private static void lawsAndTownsChange() {
+        DeputyQuarrels x = Check.town("person3;person3;person2;person1;owes2 0;owes3 2;owes3 0;"
+            + "grudge0 1;grudge1 2;quarrel0 1;");
+        sides(x, 3, 3, 2, 2, 3);
+        x.law(0, 1);
+        sides(x, 1, 3, 3, 2, 3);
+        x.law(0, 0);
+        sides(x, 3, 3, 2, 2, 3);
+        x.law(1, 1);
+        sides(x, 3, 3, 2, 2, 3);
+        Check.tell(x, "person3;person3;person2;person2;owes3 1;owes2 0;grudge0 1;quarrel0 1;");
+        due("town", x.town(), 4);
+        sides(x, 1, 1, 2, 2, 1);
+        Check.tell(x, "person3;person3;person2;person2;owes2 0;owes3 1;grudge0 1;quarrel0 1;");
+        due("town", x.town(), 4);
+        sides(x, 1, 1, 2, 2, 1);
+        Check.tell(x, "person3;person3;person2;person2;owes1 0;owes2 0;grudge0 1;quarrel0 3;quarrel0 2;quarrel0 1;");
+        due("town", x.town(), 4);
+        due("may", x.may(2), 4);
+        Check.tell(x, "person3;person3;person2;person2;owes2 0;grudge0 1;quarrel0 1;");
+        due("town", x.town(), 4);
+        due("may", x.may(0), 4);
+    }
+
+    /** Behind 3 side 1 has one way, behind 2 two ways: two new ones there would be told first, but are more. */
+    private static void oneIsFewerThanTwo() {
+        DeputyQuarrels x = Check.town("person2;person2;person1;person1;person1;person1;owes2 0;owes3 0;owes4 1;owes5 1;"
+            + "grudge0 1;grudge2 1;grudge3 1;grudge3 4;quarrel0 1;");
+        sides(x, 2, 2, 2, 2, NONE);
+        fresh(x, 1, 1, 305, NONE);
+        x.bear(3, 4, false);
+        sides(x, 2, 2, 2, 2, 2);
+        fresh(x, 1, 2, 204, 205);
+        fresh(x, 0, 2, 204, 304);
+    }
+
+    /** Behind 6 side 1 ends it by 4 or 5; behind 7 by 5 or, by 2, in two more by 3. */
+    private static void theFirstOfTwoPairs() {
+        DeputyQuarrels x = Check.town("person1;".repeat(8) + "owes6 0;owes7 0;owes2 1;owes4 1;owes5 1;owes3 2;"
+            + "grudge0 1;grudge1 6;grudge1 7;grudge2 6;grudge2 7;grudge3 6;grudge4 7;quarrel0 1;");
+        x.law(0, 2);
+        sides(x, NONE, 2, 6, 6, NONE);
+        fresh(x, 1, 2, 307, 507);
+        x.bear(7, 3, true);
+        fresh(x, 1, 1, 507, NONE);
+        x.bear(7, 4, false);
+        fresh(x, 1, 2, 406, 506);
     }
 }

@@ -15,6 +15,13 @@ public final class QuarrelTest {
         draws();
         drifting();
         images();
+        imagesKeepNoMore();
+        endedWithTakers();
+        backByARound();
+        noBackFromNowOn();
+        fourOfThem();
+        drawsOfFirstAndLast();
+        driftByOne();
         Check.close();
     }
 
@@ -214,5 +221,139 @@ public final class QuarrelTest {
         x.hand(0, 2);
         due("goBack", x.goBack(1), 1);
         how(x, 0, 0, 1, 0, NONE, NONE, 1, 0);
+    }
+
+    /** THE TEXT, THE LOG, what was SEEN, the place of a FAULT are not in an IMAGE. */
+    private static void imagesKeepNoMore() {
+        DeputyQuarrels x = Check.town(TOWN + GRUDGES + "quarrel0 1;");
+        x.keep(0);
+        Check.tell(x, "person1;owes");
+        due("town", x.town(), -11);
+        Check.tell(x, "person7;");
+        x.log(0, 2);
+        x.seen(3, 2, true);
+        x.keep(1);
+        x.clear();
+        x.log(0, 3);
+        due("goBack", x.goBack(0), 1);
+        due("fault", x.fault(), 12);
+        due("THE TEXT", x.count(4), 8);
+        due("THE LOG", x.count(5), 1);
+        due("what was SEEN", x.count(6), 0);
+        due("goBack", x.goBack(1), 1);
+        due("THE LOG", x.judge(1), 301);
+        due("what was SEEN", x.count(6), 0);
+        due("town", x.town(), 1);
+    }
+
+    private static void endedWithTakers() {
+        DeputyQuarrels x = Check.town("person2;person2;person1;person1;owes2 0;owes3 1;quarrel0 1;");
+        how(x, 0, 0, 1, 0, NONE, NONE, 1, 0);
+        due("may, ENDED from its beginning", x.may(0), 0);
+        due("hand", x.hand(0, 2), NOT);
+        due("hand by a DRAW", x.hand(0, NONE), NOT);
+        due("drift", x.drift(0, 99), 1);
+        how(x, 0, 0, 1, 0, NONE, NONE, 1, 0);
+        due("no DRAW", x.seed(0), 0);
+        x.bear(0, 1, true);
+        due("may", x.may(0), 4);
+        due("hand", x.hand(0, 2), 2);
+        how(x, 0, 2, 1, 1, NONE, NONE, 1, 1);
+        due("may, ENDED", x.may(0), 0);
+        due("hand", x.hand(0, 3), NOT);
+        x.bear(2, 1, true);
+        due("it goes on, as they bear one", x.may(0), 8);
+    }
+
+    /** Not to the one from whom one has it; but by others it may come to that one again. */
+    private static void backByARound() {
+        DeputyQuarrels x = Check.town("person1;person1;person1;person1;owes2 0;owes3 2;owes0 3;owes0 2;owes2 3;"
+            + "grudge0 1;grudge2 1;grudge3 1;quarrel0 1;");
+        x.law(0, 2);
+        due("law", x.law(1, 1), 0);
+        x.hand(0, 2);
+        due("pass", x.hand(0, NONE), NONE);
+        how(x, 0, 2, 1, 0, 0, NONE, 0, 2);
+        due("may: not 0", x.may(0), 8);
+        due("hand back", x.hand(0, 0), NOT);
+        x.hand(0, 3);
+        x.hand(0, NONE);
+        how(x, 0, 3, 1, 0, 2, NONE, 0, 4);
+        due("may: not 2", x.may(0), 1);
+        due("hand", x.hand(0, 0), 0);
+        how(x, 0, 0, 1, 1, 3, NONE, 0, 5);
+    }
+
+    /** From whom one had it ahead of NO BACK is not known. */
+    private static void noBackFromNowOn() {
+        DeputyQuarrels x = Check.town("person1;person1;person1;owes0 2;owes2 0;grudge0 1;grudge1 2;quarrel0 1;");
+        x.law(0, 2);
+        x.hand(0, 2);
+        x.law(1, 1);
+        x.hand(0, NONE);
+        how(x, 0, 2, 1, 0, NONE, NONE, 0, 2);
+        due("may", x.may(0), 1);
+        x.hand(0, 0);
+        how(x, 0, 0, 1, 1, 2, NONE, 2, 3);
+        due("law again", x.law(1, 1), 1);
+        how(x, 0, 0, 1, 1, 2, NONE, 2, 3);
+        x.keep(0);
+        due("law", x.law(1, 0), 1);
+        how(x, 0, 0, 1, 1, NONE, NONE, 0, 3);
+        x.goBack(0);
+        how(x, 0, 0, 1, 1, 2, NONE, 2, 3);
+        due("begin", x.begin(0), 3);
+        how(x, 0, 0, 1, 0, NONE, NONE, 0, 0);
+    }
+
+    private static void fourOfThem() {
+        DeputyQuarrels x = Check.town(TOWN + GRUDGES + "quarrel0 1;quarrel0 1;quarrel1 0;quarrel0 1;");
+        due("hand", x.hand(3, 3), 3);
+        how(x, 0, 0, 1, 0, NONE, NONE, 0, 0);
+        how(x, 1, 0, 1, 0, NONE, NONE, 0, 0);
+        how(x, 2, 1, 0, 0, NONE, NONE, 0, 0);
+        how(x, 3, 3, 1, 1, NONE, NONE, 0, 1);
+        due("quarrel 4", x.quarrel(4, 0), UNKNOWN);
+        due("begin 4", x.begin(4), UNKNOWN);
+        due("begin", x.begin(3), 1);
+        how(x, 3, 0, 1, 0, NONE, NONE, 0, 0);
+    }
+
+    /** The same DRAWS as above, of PERSONS 0, 7, 11, 15. */
+    private static void drawsOfFirstAndLast() {
+        DeputyQuarrels x = Check.town("person1;".repeat(16) + "owes15 3;owes0 3;owes11 3;owes7 3;grudge3 4;quarrel3 4;");
+        x.law(0, 2);
+        due("may", x.may(0), 0x8881);
+        int[] to = {0, 0, 0, 7, 11, 15, 7, 7};
+        for (int p : to) {
+            due("hand by a DRAW", x.hand(0, NONE), p);
+            x.begin(0);
+        }
+        due("hand to the last", x.hand(0, 15), 15);
+        due("hand to one behind the last", x.hand(0, 16), UNKNOWN);
+        x.begin(0);
+        x.seed(2147483647);
+        due("hand by the greatest SEED", x.hand(0, NONE), 7);
+        due("seed", x.seed(0), 1043980748);
+        due("seed", x.seed(-1), OUTSIDE);
+        due("seed", x.seed(2147483647), 0);
+        due("seed", x.seed(-1), OUTSIDE);
+        due("seed", x.seed(0), 2147483647);
+    }
+
+    private static void driftByOne() {
+        DeputyQuarrels x = Check.town("person1;person1;person1;owes0 2;owes2 0;grudge0 1;grudge1 2;quarrel0 1;");
+        x.law(0, 2);
+        due("drift", x.drift(0, 1), 0);
+        how(x, 0, 2, 1, 1, NONE, NONE, 0, 1);
+        due("drift, a pass", x.drift(0, 1), 0);
+        how(x, 0, 2, 1, 0, NONE, NONE, 0, 2);
+        due("drift", x.drift(0, 2), 0);
+        how(x, 0, 0, 1, 0, NONE, NONE, 0, 4);
+        due("drift", x.drift(0, 98), 0);
+        due("98 more", x.quarrel(0, 6), 102);
+        due("drift by none", x.drift(0, 0), OUTSIDE);
+        due("drift by 100", x.drift(0, 100), OUTSIDE);
+        due("no more", x.quarrel(0, 6), 102);
     }
 }

@@ -4,6 +4,7 @@ public final class TownTest {
     private static final String TWO = "person1;person1;";
 
     public static void main(String[] args) {
+        constants();
         newObject();
         feeding();
         towns();
@@ -11,7 +12,14 @@ public final class TownTest {
         faultsOfNumbersTold();
         faultKeepsAll();
         townForgets();
+        imagesGo();
+        textFedAlone();
+        townBehindAFault();
+        textsOneByOne();
+        grudgesOfAFaultyText();
+        fiveHundredBytes();
         personsAndTurns();
+        fullTown();
         laws();
         grudges();
         Check.close();
@@ -19,6 +27,14 @@ public final class TownTest {
 
     private static void due(String call, long got, long want) {
         Check.due(call, got, want);
+    }
+
+    private static void constants() {
+        due("NONE", DeputyQuarrels.NONE, NONE);
+        due("UNKNOWN", DeputyQuarrels.UNKNOWN, UNKNOWN);
+        due("OUTSIDE", DeputyQuarrels.OUTSIDE, OUTSIDE);
+        due("NOT", DeputyQuarrels.NOT, NOT);
+        due("FULL", DeputyQuarrels.FULL, FULL);
     }
 
     private static void newObject() {
@@ -189,6 +205,25 @@ public final class TownTest {
         fault(TWO + "grudge0 1;grudge0 1;", 4, 34);
         fault(TWO + "grudge0 1;grudge1 0;", 4, 34);
         fault(TWO + "quarrel1 1;", 4, 25);
+        fault(TWO + "owes1 001;", 2, 22);
+        fault(TWO + "owes0 1;owes0 001;", 2, 30);
+        fault(TWO + "grudge0 000;", 2, 24);
+        fault("person09;person9;person10;", 2, 23);
+        fault("person9person9;", 1, 7);
+        fault("person9;personperson9;", 1, 8);
+        fault(TWO + "owes0 quarrel;", 1, 22);
+        fault("person0;".repeat(16) + "owes0 16;", 2, 134);
+        fault("person0;".repeat(16) + "owes15 15;", 4, 135);
+        fault("person0;".repeat(7) + turns(40) + "owes", 3, 376);
+        fault("person0;".repeat(7) + turns(40) + "owed0 1;", 1, 376);
+        fault(TWO + "quarrel0 1;".repeat(4) + " quarrel", 3, 61);
+        fault(TWO + "quarrel0 1;".repeat(4) + "quarrels0 1;", 1, 60);
+        fault("   person", 1, 9);
+        fault("   ;", 1, 3);
+        fault("qerson1;", 1, 0);
+        fault(TWO + "pwes0 1;", 1, 16);
+        fault(TWO + "hrudge0 1;", 1, 16);
+        fault(TWO + "ruarrel0 1;", 1, 16);
     }
 
     private static void fault(String text, int number, int place) {
@@ -241,6 +276,159 @@ public final class TownTest {
         due("seed stays", x.seed(0), 77);
         due("an empty town", x.town(), 0);
         for (int i = 0; i < 7; i++) due("count", x.count(i), 0);
+    }
+
+    private static void imagesGo() {
+        for (int i = 0; i < 2; i++) {
+            DeputyQuarrels x = Check.town(TWO);
+            due("keep", x.keep(i), 1);
+            Check.tell(x, "person");
+            due("town", x.town(), -11);
+            due("a FAULT leaves IMAGES", x.goBack(i), 1);
+            Check.tell(x, TWO);
+            due("town", x.town(), 2);
+            due("IMAGES are gone", x.goBack(i), NOT);
+            due("the other", x.goBack(1 - i), NOT);
+        }
+    }
+
+    /** THE TEXT alone is no town yet. */
+    private static void textFedAlone() {
+        DeputyQuarrels x = new DeputyQuarrels();
+        Check.tell(x, TWO + "grudge0 1;quarrel0 1;");
+        due("count(4)", x.count(4), 37);
+        for (int i = 0; i < 4; i++) due("count", x.count(i), 0);
+        due("person", x.person(0, 0), UNKNOWN);
+        due("quarrel", x.quarrel(0, 0), UNKNOWN);
+        due("judge", x.judge(0), NOT);
+        due("have", x.have(0), NOT);
+        due("most", x.most(0), 0);
+        due("town", x.town(), 2);
+        due("quarrel", x.quarrel(0, 5), 2);
+    }
+
+    /** The place is that of the latest town(), and nothing of the faulty text is left. */
+    private static void townBehindAFault() {
+        DeputyQuarrels x = new DeputyQuarrels();
+        Check.tell(x, TWO + "owes0 1;grudge0 1;quarrel0 1;;");
+        due("town", x.town(), -11);
+        due("fault", x.fault(), 45);
+        due("an empty text", x.town(), 0);
+        due("fault", x.fault(), NONE);
+        Check.tell(x, "person1;person1;owes0 1;owes0 1;");
+        due("town", x.town(), -14);
+        due("fault", x.fault(), 30);
+        Check.tell(x, "person1;person1;owes0 1;grudge0 2;");
+        due("town", x.town(), -12);
+        due("fault", x.fault(), 32);
+        Check.tell(x, TWO + "owes0 1;grudge1 0;quarrel0 1;");
+        due("town", x.town(), 2);
+        due("fault", x.fault(), NONE);
+        due("TURNS", x.count(1), 1);
+        due("grudges", x.count(2), 1);
+        due("QUARRELS", x.count(3), 1);
+        Check.tell(x, ":");
+        due("town", x.town(), -11);
+        due("fault", x.fault(), 0);
+        Check.tell(x, "      ");
+        due("blanks alone", x.town(), 0);
+        due("fault", x.fault(), NONE);
+        for (int i = 0; i < 7; i++) due("count", x.count(i), 0);
+        due("person", x.person(0, 0), UNKNOWN);
+        due("quarrel", x.quarrel(0, 0), UNKNOWN);
+        due("judge", x.judge(0), NOT);
+    }
+
+    /** The end is at the text's length, whatever a longer text held there. */
+    private static void textsOneByOne() {
+        DeputyQuarrels x = Check.town("person1;person2;");
+        Check.tell(x, "person1");
+        due("town", x.town(), -11);
+        due("fault", x.fault(), 7);
+        Check.tell(x, "person1;perso");
+        due("town", x.town(), -11);
+        due("fault", x.fault(), 8);
+        Check.tell(x, "person");
+        due("town", x.town(), -11);
+        due("fault", x.fault(), 6);
+        Check.tell(x, "person3;");
+        due("town", x.town(), 1);
+        due("STEP", x.person(0, 0), 3);
+    }
+
+    private static DeputyQuarrels fed500(String text) {
+        DeputyQuarrels x = new DeputyQuarrels();
+        Check.tell(x, text);
+        due("bytes", x.count(4), 500);
+        due("one more", x.feed(1, ';'), FULL);
+        due("eight more", x.feed(8, ';'), FULL);
+        due("bytes", x.count(4), 500);
+        return x;
+    }
+
+    private static void fiveHundredBytes() {
+        String blanks = " ".repeat(484);
+        DeputyQuarrels x = fed500("person4;" + blanks + "person5;");
+        due("town", x.town(), 2);
+        due("fault", x.fault(), NONE);
+        due("STEP", x.person(1, 0), 5);
+        due("feed", x.feed(1, ' '), 1);
+        x = fed500("person4;" + blanks + " person5");
+        due("not closed", x.town(), -11);
+        due("the end", x.fault(), 500);
+        x = fed500("person4;" + blanks + "person5:");
+        due("closed by another sign", x.town(), -11);
+        due("the last byte", x.fault(), 499);
+        x = fed500(" ".repeat(494) + "person");
+        due("a word alone", x.town(), -11);
+        due("the end", x.fault(), 500);
+        x = fed500(" ".repeat(499) + "p");
+        due("a letter alone", x.town(), -11);
+        due("the last byte", x.fault(), 499);
+        x = fed500("person" + " ".repeat(493) + "1");
+        due("a NUMBER alone", x.town(), -11);
+        due("the end", x.fault(), 500);
+        x = fed500("person" + "1".repeat(494));
+        due("a long NUMBER", x.town(), -12);
+        due("its first", x.fault(), 6);
+        x = fed500("p".repeat(500));
+        due("a long word", x.town(), -11);
+        due("its first letter", x.fault(), 0);
+        DeputyQuarrels y = new DeputyQuarrels();
+        Check.tell(y, " ".repeat(492));
+        due("8 to 500", y.feed(8, 0x706572736f6e373bL), 500);
+        due("town", y.town(), 1);
+        Check.tell(y, " ".repeat(493));
+        due("8 to 501", y.feed(8, 0x706572736f6e373bL), FULL);
+        due("7 to 500", y.feed(7, 0x20202020202020L), 500);
+        due("town", y.town(), 0);
+    }
+
+    /** 16 PERSONS, 40 TURNS, four QUARRELS: the last of each is there, and none behind it. */
+    private static void fullTown() {
+        DeputyQuarrels x = Check.town("person0;".repeat(15) + "person9;" + turns(39) + "owes15 0;"
+            + "quarrel0 1;quarrel1 2;quarrel2 3;quarrel15 14;");
+        int[] counts = {16, 40, 0, 4};
+        for (int i = 0; i < 4; i++) due("count", x.count(i), counts[i]);
+        due("STEP", x.person(14, 0), 0);
+        due("STEP", x.person(15, 0), 9);
+        due("who owe 0", x.person(0, 1), 0x8000 | 0x7e);
+        due("to whom 15 owes", x.person(15, 2), 1);
+        due("grudge of 15", x.bear(15, 14, true), 1);
+        due("grudges of 14", x.person(14, 3), 0x8000);
+        due("grudges of 15", x.person(15, 3), 0x4000);
+        due("person 16", x.person(16, 0), UNKNOWN);
+        due("turn", x.turn(39, 0), 15);
+        due("turn", x.turn(39, 1), 0);
+        due("turn 40", x.turn(40, 0), UNKNOWN);
+        due("quarrel", x.quarrel(3, 0), 15);
+        due("quarrel", x.quarrel(3, 1), 14);
+        due("quarrel 4", x.quarrel(4, 0), UNKNOWN);
+        due("bear 16", x.bear(16, 0, true), UNKNOWN);
+        due("log 16", x.log(16, 15), UNKNOWN);
+        due("log 15", x.log(15, 0), 1);
+        due("seen 16", x.seen(0, 16, true), UNKNOWN);
+        due("seen 15", x.seen(0, 15, true), 1);
     }
 
     private static void personsAndTurns() {
@@ -311,9 +499,39 @@ public final class TownTest {
         due("the last itself", x.bear(1, 3, false), 2);
         due("grudge", x.grudge(1), 203);
         due("person", x.person(1, 3), 0);
+        x = Check.town("person1;person1;person1;grudge0 1;grudge0 2;grudge2 1;");
+        due("only that of these two", x.bear(2, 0, false), 2);
+        due("grudge", x.grudge(0), 1);
+        due("the last takes its number", x.grudge(1), 201);
+        due("only that of these two", x.bear(2, 1, false), 1);
+        due("grudge", x.grudge(0), 1);
+        due("told anew by the other first", x.bear(2, 0, true), 2);
+        due("grudge", x.grudge(1), 200);
+        due("the first", x.bear(1, 0, false), 1);
+        due("the last takes its number", x.grudge(0), 200);
+        due("the only one", x.bear(0, 2, false), 0);
+        due("grudge", x.grudge(0), UNKNOWN);
         DeputyQuarrels y = Check.town("person0;".repeat(16));
         int n = 0;
         for (int a = 0; a < 16; a++) for (int b = 0; b < a; b++) due("all may bear one", y.bear(a, b, true), ++n);
         due("grudge 119", y.grudge(119), 1514);
+    }
+
+    /** What a text with a FAULT told is not told already for the next one. */
+    private static void grudgesOfAFaultyText() {
+        DeputyQuarrels x = new DeputyQuarrels();
+        for (int i = 0; i < 3; i++) {
+            Check.tell(x, TWO + "owes1 0;grudge0 1;quarrel0 1;quarrel");
+            due("town", x.town(), -11);
+        }
+        Check.tell(x, TWO + "owes1 0;grudge1 0;quarrel0 1;");
+        due("town", x.town(), 2);
+        due("grudge", x.person(0, 3), 2);
+        Check.tell(x, TWO + "grudge0 1;grudge1 0;");
+        due("town", x.town(), -14);
+        Check.tell(x, TWO);
+        due("town", x.town(), 2);
+        due("no grudge", x.person(0, 3), 0);
+        due("no grudge to be none any more", x.bear(0, 1, false), NOT);
     }
 }
