@@ -40,8 +40,7 @@ public final class DeputyQuarrels {
         notes = new Notes();
         now = new Standing();
         images = new Standing[IMAGES];
-        images[0] = new Standing();
-        images[1] = new Standing();
+        for (int i = 0; i < images.length; i++) images[i] = new Standing();
         told = new Town();
         spare = new Town();
         faultPlace = NONE;
